@@ -959,20 +959,24 @@ public final class Edits13 {
             return true;
         }
 
-        /** The FAILURE of READING t, or 0. FACES have nothing above them, and so READING them never fails. */
-        int read(int t, int depth) {
-            int up = types.whatIsAbove(t);
-            if (up == NONE || depth >= Types.MOST) {
-                return 0;
+        /**
+         * The FAILURE of READING t, or 0. The highest CLASS is READ first, so that of several FAILURES its own
+         * is it. FACES have nothing above them, and so READING them never fails.
+         */
+        int failureOfReading(int t) {
+            int failure = 0;
+            int low = t;
+            int up = types.whatIsAbove(low);
+            for (int i = 0; i < Types.MOST && up != NONE; i++) {
+                if (types.isFinal(up)) {
+                    failure = BARRED;
+                } else if (isBroken(low)) {
+                    failure = BROKEN;
+                }
+                low = up;
+                up = types.whatIsAbove(low);
             }
-            int failure = read(up, depth + 1);
-            if (failure != 0) {
-                return failure;
-            }
-            if (types.isFinal(up)) {
-                return BARRED;
-            }
-            return isBroken(t) ? BROKEN : 0;
+            return failure;
         }
 
         private boolean isBroken(int t) {
@@ -1167,7 +1171,7 @@ public final class Edits13 {
                 found = c.kept;
                 return 0;
             }
-            int failure = house.read(c.t, 0);
+            int failure = house.failureOfReading(c.t);
             if (failure != 0) {
                 return failure;
             }
@@ -1240,7 +1244,7 @@ public final class Edits13 {
 
         /** Of r, on which what is not STATIC is met. */
         private int failureOfObject(Caller c, int r) {
-            int failure = house.read(r, 0);
+            int failure = house.failureOfReading(r);
             if (failure != 0) {
                 return failure;
             }

@@ -394,6 +394,29 @@ public final class MeetTest {
         Due.same("18: it itself does not", x.meet(call, a), Due.LOST);
     }
 
+    private static void lostIsAheadOfAll() {
+        Edits13 x = new Edits13();
+        int a = Due.plainClass(x);
+        int b = Due.classUnder(x, a);
+        int f = Due.plainFace(x);
+        int g = Due.plainFace(x);
+        x.method(b, 0, f, NONE, STATIC, 1);
+        x.method(b, 0, b, g, STATIC, 2);
+        x.call(b, 0, f, NONE);
+        x.call(b, 0, b, g);
+        for (int i = 0; i < 3; i++) {
+            x.undo();
+        }
+        x.marks(a, 2);
+        Due.same("18: the second PARAMETER is no more, ahead of BARRED", x.meet(1, a), Due.LOST);
+        Due.same("18: the PARAMETER is there: BARRED", x.meet(0, a), Due.BARRED);
+        x.undo();
+        x.undo();
+        x.marks(a, 2);
+        Due.same("18: the first PARAMETER is no more, ahead of BARRED", x.meet(0, a), Due.LOST);
+        Due.same("18: r is no CLASS, ahead of LOST", x.meet(0, f), BAD);
+    }
+
     private static void newMeets() {
         Edits13 x = new Edits13();
         int a = Due.plainClass(x);
@@ -567,6 +590,7 @@ public final class MeetTest {
         callOfAnotherSort();
         namesThatAreNoMore();
         parameterIsNoMore();
+        lostIsAheadOfAll();
         newMeets();
         anew();
         anewFaults();

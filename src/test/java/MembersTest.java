@@ -38,6 +38,7 @@ public final class MembersTest {
         Due.same("7: 60", x.field(6, 0, 4, 0, 0), FULL);
         Due.same("7: 60, BAD", x.field(0, 0, 4, 0, 0), BAD);
         Due.same("8: 60", x.method(6, 0, NONE, NONE, 0, 0), FULL);
+        Due.same("7, 8: what is FULL is no EDIT", x.count(3), 67);
         Due.same("8: 60, BAD", x.method(7, 0, NONE, NONE, 0, 0), BAD);
         Due.same("27: 60", x.count(1), 60);
         Due.same("9: one is dropped", x.drop(59), 1);
