@@ -551,9 +551,11 @@ public final class Edits13 {
         }
 
         private int overDirectly(int t) {
-            int all = above[t] != NONE ? over[above[t]] : 0;
-            for (int i = 0; i < faceCount[t]; i++) {
-                all |= over[faces[t * MOST_FACES + i]];
+            int up = whatIsAbove(t);
+            int all = isType(up) ? over[up] : 0;
+            for (int i = 0; i < MOST_FACES; i++) {
+                int face = faceAt(t, i);
+                all |= isType(face) ? over[face] : 0;
             }
             return all;
         }
@@ -888,6 +890,7 @@ public final class Edits13 {
             return marks >= 0 && marks <= Members.ABSTRACT;
         }
 
+        /** Only a GET that is made passes HIDDEN ones over. */
         int lookForField(int t, int name, boolean passHidden) {
             types.orderFrom(t, true);
             for (int i = 0; i < types.ordered; i++) {
@@ -899,16 +902,16 @@ public final class Edits13 {
             return NONE;
         }
 
-        int lookForMethod(int t, int name, int a, int b, boolean passHidden) {
+        int lookForMethod(int t, int name, int a, int b) {
             types.orderFrom(t, false);
-            return firstMethod(name, a, b, passHidden);
+            return firstMethod(name, a, b);
         }
 
-        /** In the TYPES as they were ordered last. */
-        int firstMethod(int name, int a, int b, boolean passHidden) {
+        /** In the TYPES as they were ordered last. A HIDDEN one is found too, and so covers those behind it. */
+        int firstMethod(int name, int a, int b) {
             for (int i = 0; i < types.ordered; i++) {
                 int m = members.methodOf(types.orderedAt(i), name, a, b);
-                if (m != NONE && !(passHidden && members.has(m, Members.HIDDEN))) {
+                if (m != NONE) {
                     return m;
                 }
             }
@@ -1124,7 +1127,7 @@ public final class Edits13 {
             int first = all.first[m];
             int second = all.second[m];
             return house.types.goesInto(c.a, first) && house.types.goesInto(c.b, second)
-                && house.firstMethod(c.n, first, second, true) == m;
+                && house.firstMethod(c.n, first, second) == m;
         }
 
         private int narrowest() {
@@ -1207,7 +1210,7 @@ public final class Edits13 {
             if (house.types.isFace(c.t) != c.onFace) {
                 return CHANGED;
             }
-            int m = house.lookForMethod(c.t, c.n, c.first, c.second, false);
+            int m = house.lookForMethod(c.t, c.n, c.first, c.second);
             int failure = failureOfFound(c, m);
             if (failure == 0 && !c.isStatic) {
                 failure = failureOfObject(c, r);

@@ -164,8 +164,79 @@ public final class CallersTest {
         Due.same("16: STATIC ones fit too", x.call(c, 0, c, NONE), 1);
         told("22", x, 1, 1, c, 0, c, NONE, 0, 8);
         x.method(c, 0, f, NONE, HIDDEN, 1);
-        Due.same("16: callers see no HIDDEN one", x.call(c, 0, f, NONE), 2);
-        told("22", x, 2, 1, c, 0, f, NONE, 0, 9);
+        Due.same("16: a HIDDEN one covers that of the FACE", x.call(c, 0, f, NONE), Due.NO_SUCH);
+        Due.same("16: on the FACE itself it does not", x.call(f, 0, f, NONE), 2);
+        told("22", x, 2, 1, f, 0, f, NONE, 0, 9);
+    }
+
+    private static void callOfHidden() {
+        Edits13 x = new Edits13();
+        int a = Due.plainClass(x);
+        int b = Due.classUnder(x, a);
+        int c = Due.classUnder(x, b);
+        x.method(a, 0, c, NONE, 0, 1);
+        x.method(a, 0, a, NONE, 0, 2);
+        int own = x.method(b, 0, c, NONE, HIDDEN, 3);
+        Due.same("16: the nearest one is covered, another one FITS", x.call(c, 0, c, NONE), 0);
+        told("22", x, 0, 1, c, 0, a, NONE, 0, 6);
+        Due.same("16: ahead of the HIDDEN one nothing is covered", x.call(a, 0, c, NONE), 1);
+        told("22", x, 1, 1, a, 0, c, NONE, 0, 6);
+        Due.same("20: covered anew", x.anew(0, c), 0);
+        Due.same("20: covered anew, ASKED", x.asked(), 2);
+        x.mark(own, HIDDEN | STATIC);
+        Due.same("16: HIDDEN and STATIC covers too", x.call(c, 0, c, NONE), 2);
+        told("22", x, 2, 1, c, 0, a, NONE, 0, 7);
+        x.mark(own, STATIC);
+        Due.same("16: no more HIDDEN, it FITS itself", x.call(c, 0, c, NONE), 3);
+        told("22", x, 3, 1, c, 0, c, NONE, 0, 8);
+        Due.same("16: and covers still", value(x, 3, a), 3);
+        x.drop(own);
+        Due.same("16: dropped, it covers nothing", x.call(c, 0, c, NONE), 4);
+        told("22", x, 4, 1, c, 0, c, NONE, 0, 9);
+        Due.same("16: but that above", value(x, 4, c), 1);
+    }
+
+    private static void callOfHiddenAbove() {
+        Edits13 x = new Edits13();
+        int a = Due.plainClass(x);
+        int b = Due.classUnder(x, a);
+        int f = Due.plainFace(x);
+        int g = Due.plainFace(x);
+        x.face(b, f);
+        x.face(b, g);
+        Due.plainMethod(x, g, 0, STATIC, 1);
+        Due.same("16: of the second FACE", x.call(b, 0, NONE, NONE), 0);
+        int first = Due.plainMethod(x, f, 0, HIDDEN, 2);
+        Due.same("16: a HIDDEN one of the first FACE covers it", x.call(b, 0, NONE, NONE), Due.NO_SUCH);
+        Due.same("20: anew likewise", x.anew(0, a), Due.NO_SUCH);
+        Due.same("18: the old one MEETS it", x.meet(0, a), Due.CLOSED);
+        x.mark(first, STATIC);
+        Due.same("16: one that is not HIDDEN FITS", x.call(b, 0, NONE, NONE), 1);
+        Due.plainMethod(x, a, 0, HIDDEN, 3);
+        Due.same("16: a HIDDEN one above covers FACES", x.call(b, 0, NONE, NONE), Due.NO_SUCH);
+        Due.same("16: and is none for its own TYPE", x.call(a, 0, NONE, NONE), Due.NO_SUCH);
+        Due.plainMethod(x, b, 0, STATIC, 4);
+        Due.same("16: its own is ahead of it", x.call(b, 0, NONE, NONE), 2);
+        Due.same("16: its own", value(x, 2, a), 4);
+        Due.same("27: those that were refused made none", x.count(2), 3);
+    }
+
+    private static void callOfManyHidden() {
+        Edits13 x = new Edits13();
+        int a = Due.plainClass(x);
+        int b = Due.classUnder(x, a);
+        x.method(a, 0, a, b, 0, 1);
+        x.method(a, 0, b, a, 0, 2);
+        Due.same("16: MANY", x.call(b, 0, b, b), Due.MANY);
+        x.method(b, 0, b, a, HIDDEN, 3);
+        Due.same("16: one of the MANY is covered", x.call(b, 0, b, b), 0);
+        told("22", x, 0, 1, b, 0, a, b, 0, 5);
+        Due.same("16: above there are MANY", x.call(a, 0, b, b), Due.MANY);
+        x.method(a, 0, b, b, 0, 4);
+        x.method(b, 0, b, b, HIDDEN, 5);
+        Due.same("16: above the nearest one settles it", x.call(a, 0, b, b), 1);
+        Due.same("16: here that is covered too", x.call(b, 0, b, b), 2);
+        told("22", x, 2, 1, b, 0, a, b, 0, 7);
     }
 
     private static void make() {
@@ -304,6 +375,9 @@ public final class CallersTest {
         call();
         callOfMany();
         callFindsThoseOfFaces();
+        callOfHidden();
+        callOfHiddenAbove();
+        callOfManyHidden();
         make();
         fullOfCallers();
         callerBad();

@@ -521,7 +521,7 @@ final class PlainHouse {
         List<M> fit = new ArrayList<>();
         for (M m : s.members.values()) {
             if (m.method && m.name == c.n && !m.is(4) && goInto(s, c.arguments, m.parameters)
-                && s.look(c.t, m, true) == m) {
+                && s.look(c.t, m, false) == m) {
                 fit.add(m);
             }
         }
