@@ -42,7 +42,7 @@ final class Due {
     /** Fills up the EDITS with such as change nothing that a test looks at. */
     static void fillEdits(Edits13 x, int type) {
         int m = x.told(type, 2);
-        while (x.count(3) < 120) {
+        for (int left = 120 - x.count(3); left > 0; left--) {
             same("marks to fill up", x.marks(type, m), m);
         }
     }

@@ -4,7 +4,7 @@ import java.util.TreeMap;
 
 /** Runs of 512 calls, the same ones each time, on Edits13 and on PlainHouse: the answers must be the same. */
 public final class ModelTest {
-    private static final int RUNS = 700;
+    private static final int RUNS = 1100;
     private static final int CALLS = 512;
     private static final long[] VALUES = {0, 1, -1, 2, 127, 128, 255, 256, 300, 32767, 32768, 65535, 65536,
         16777217, Integer.MAX_VALUE, Integer.MIN_VALUE, 1L << 32, 9007199254740993L, Long.MAX_VALUE, Long.MIN_VALUE};
@@ -19,6 +19,8 @@ public final class ModelTest {
     /** How often, of four, METHODS and CALLS have no PARAMETER. */
     private final int bare;
     private int run;
+    /** How many calls there were: behind 512 of them all answers are free. */
+    private int calls;
 
     private ModelTest(int run, Map<String, Integer> seen) {
         this.run = run;
@@ -90,6 +92,7 @@ public final class ModelTest {
     }
 
     private void due(String call, long got, long want) {
+        calls++;
         Due.same("run " + run + " " + call, got, want);
         String name = call.substring(0, call.indexOf('('));
         if (want < 0 && want > -40) {
@@ -183,7 +186,8 @@ public final class ModelTest {
         int r = aClass();
         int t = aType();
         int n = aName();
-        switch (upTo(11)) {
+        // In some runs many CALLERS are made, so that they become FULL.
+        switch (run % 8 == 0 && random.nextBoolean() ? upTo(3) : upTo(11)) {
             case 0:
                 due(told("get", t, n), x.get(t, n), y.get(t, n));
                 break;
@@ -212,7 +216,9 @@ public final class ModelTest {
             default:
                 due(told("culprit", c, r), x.culprit(c, r), y.culprit(c, r));
         }
-        due("asked()", x.asked(), y.asked());
+        if (calls < CALLS) {
+            due("asked()", x.asked(), y.asked());
+        }
     }
 
     private void whatThereIs() {
@@ -252,12 +258,14 @@ public final class ModelTest {
                 due(told("count", what), x.count(what), y.count(what));
             }
         }
-        due("digest()", x.digest(), y.digest());
+        if (calls < CALLS) {
+            due("digest()", x.digest(), y.digest());
+        }
     }
 
     private void undo() {
         int times = random.nextInt(25) == 0 ? upTo(40) : upTo(2);
-        for (int i = 0; i <= times; i++) {
+        for (int i = 0; i <= times && calls < CALLS; i++) {
             due("undo()", x.undo(), y.undo());
         }
     }
@@ -303,7 +311,7 @@ public final class ModelTest {
         for (int run = 0; run < RUNS; run++) {
             ModelTest test = new ModelTest(run, seen);
             test.begin();
-            for (int i = 0; i < CALLS; i++) {
+            while (test.calls < CALLS) {
                 test.step();
             }
         }
