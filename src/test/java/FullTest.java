@@ -99,6 +99,26 @@ public final class FullTest {
         Due.same("4: and no more", x.face(1, 2), BAD);
     }
 
+    /** The last TYPE with the most FACES. */
+    private static void facesOfTheLastType() {
+        Edits13 x = new Edits13();
+        Houses.faces(x);
+        for (int n = 1; n <= 3; n++) {
+            Due.same("4: of TYPE 11, FACE " + n, x.face(11, n + 1), n);
+        }
+        Due.same("4: no fourth", x.face(11, 0), BAD);
+        Due.same("5: FACE 3 is none", x.unface(11, 3), BAD);
+        Due.same("5: the first one goes", x.unface(11, 0), 2);
+        Due.same("23: the second one moves up", x.told(11, 4), 3);
+        Due.same("23: the third one moves up", x.told(11, 5), 4);
+        Due.same("23: none is the third", x.told(11, 6), NONE);
+        Due.same("14: undo", x.undo(), 15);
+        Due.same("5: the last one goes", x.unface(11, 2), 2);
+        Due.same("23: the first one stays", x.told(11, 4), 2);
+        Due.same("23: the second one stays", x.told(11, 5), 3);
+        Due.same("24: no more BELOW it", x.below(11, 4), 0);
+    }
+
     /** 7: "the least free one", "FULL: 60"; 8: "likewise". */
     private static void members() {
         Edits13 x = new Edits13();
@@ -255,6 +275,7 @@ public final class FullTest {
         empty();
         types();
         faces();
+        facesOfTheLastType();
         members();
         callers();
         callersThatFail();
